@@ -448,13 +448,11 @@ public final class IdealBench {
 
     /** The polynomials over the field of p numbers in n variables, and how they are reckoned with. */
     private static final class Ring {
-        private static final int POWERS = MOST_EXPONENT + 1;
-
         final int p;
         final int n;
         int order = REVERSED;
-        /** Of each variable the powers of its number at the point that was set. */
-        private final int[] powers = new int[MOST_VARIABLES * POWERS];
+        /** The numbers of the variables at the point that was set. */
+        private final int[] point = new int[MOST_VARIABLES];
         /** Of each term of a product's first factor the term of the second that it meets next. */
         private final int[] meets = new int[MOST_TERMS];
         private final Poly nought = new Poly();
@@ -477,13 +475,21 @@ public final class IdealBench {
             return Math.floorMod(number, p);
         }
 
-        /** By Fermat: the power p - 2. */
-        int inverse(int number) {
-            int inverse = 1;
-            for (int k = 0; k < p - 2; k++) {
-                inverse = restOf(inverse * number);
+        int power(int number, int exponent) {
+            int product = 1;
+            int square = number;
+            for (int bits = exponent; bits > 0; bits >>= 1) {
+                if ((bits & 1) == 1) {
+                    product = restOf(product * square);
+                }
+                square = restOf(square * square);
             }
-            return inverse;
+            return product;
+        }
+
+        /** By Fermat's theorem. */
+        int inverse(int number) {
+            return power(number, p - 2);
         }
 
         /** An int from 0 that is greater for the greater monomial, so that ints are compared in place of exponents. */
@@ -655,12 +661,7 @@ public final class IdealBench {
         }
 
         void setPoint(int v, int x) {
-            int number = restOf(x);
-            int power = 1;
-            for (int e = 0; e < POWERS; e++) {
-                powers[v * POWERS + e] = power;
-                power = restOf(power * number);
-            }
+            point[v] = restOf(x);
         }
 
         /** Point k: its numbers are the digits of k to the base p. */
@@ -686,7 +687,7 @@ public final class IdealBench {
             for (int t = 0; t < f.size; t++) {
                 int product = f.numbers[t];
                 for (int v = 0; v < n; v++) {
-                    product = restOf(product * powers[v * POWERS + Mono.exponentOf(f.monos[t], v)]);
+                    product = restOf(product * power(point[v], Mono.exponentOf(f.monos[t], v)));
                 }
                 sum = restOf(sum + product);
             }

@@ -451,6 +451,15 @@ public final class PromisesTest {
         fillShelf(x);
         due("full", x.derived(0, 0), FULL);
         due("bad ahead", x.derived(0, 5), BAD);
+        IdealBench y = new IdealBench(251, 3);
+        draftForty(y);
+        due("forty", y.derived(-1, 0), 0);
+        due("forty", y.terms(0), 40);
+        due("by y", y.derived(-1, 1), 1);
+        due("forty", y.terms(1), 40);
+        due("the first", y.number(1, 0), 20);
+        due("by z", y.derived(-1, 2), 2);
+        due("those that have a z", y.terms(2), 20);
     }
 
     private static void promise12() {
@@ -544,6 +553,13 @@ public final class PromisesTest {
         due("by the order", x.compare(12, 6), -1);
         x.order(2);
         due("by the order", x.compare(12, 6), 1);
+        x.drop(7);
+        draft(x, "x-x2");
+        due("a place that held more", x.keep(), 7);
+        kept(x, "x+1");
+        due("one that is over is less", x.compare(7, 16), -1);
+        due("the other is more", x.compare(16, 7), 1);
+        due("alike", x.compare(7, 6), 0);
     }
 
     private static void promise15() {
@@ -565,6 +581,27 @@ public final class PromisesTest {
         due("made", x.count(11), 3);
         due("in all", x.count(8), 6);
         due("held", x.count(10), 2);
+        muchFuel();
+    }
+
+    /** y takes one reduction for itself and 31 for each of 30 z, 30 for as many w. */
+    private static void muchFuel() {
+        IdealBench x = new IdealBench(7, 4);
+        x.order(0);
+        for (String told : new String[] {"w-1", "z-w30", "y-z30w30"}) {
+            x.enter(kept(x, told));
+        }
+        for (int e = 1; e <= 30; e++) {
+            x.term(1, e, 0, 0, 0);
+        }
+        draft(x, "y2z2w16");
+        x.fuel(1999);
+        due("one too few", x.left(-1), SPENT);
+        due("made", x.count(11), 1999);
+        x.fuel(2000);
+        due("all", x.left(-1), 3);
+        due("made", x.count(11), 2000);
+        due("left", x.terms(3), 31);
     }
 
     private static void promise16() {
@@ -595,6 +632,14 @@ public final class PromisesTest {
         due("work", x.work(1), 1);
         due("way 0: the first", x.pair(0), 2);
         due("way 0: the first", x.pair(1), 102);
+        IdealBench y = new IdealBench(7, 2);
+        for (String told : new String[] {"x2", "x2y3", "x2y"}) {
+            y.enter(kept(y, told));
+        }
+        y.way(1);
+        y.work(1);
+        due("the second is the least", y.pair(0), 1);
+        due("the second is the least", y.pair(1), 102);
     }
 
     private static void promise17() {
@@ -644,6 +689,16 @@ public final class PromisesTest {
         due("nothing left", y.count(7), 2);
         due("k may be ahead of both", y.work(1), 1);
         due("chain", y.count(5), 1);
+        for (int bits = 0; bits < 2; bits++) {
+            IdealBench z = new IdealBench(7, 2);
+            z.rules(bits);
+            for (String told : new String[] {"x", "x2", "x3"}) {
+                z.enter(kept(z, told));
+            }
+            due("chain is off", z.work(3), 3);
+            due("chain is off", z.count(5), 0);
+            due("chain is off", z.count(7), 3);
+        }
     }
 
     private static void promise18() {
@@ -869,7 +924,20 @@ public final class PromisesTest {
         due("they had been", had, 5);
         dueText("least", told(x, -2), "1z4+1z2");
         dueText("mid", told(x, -3), "1y+3z");
-        // of like heads the later ones go, even if they would be tidier
+        due("they are gone", x.count(2), 3);
+        due("they are gone", x.terms(-5), BAD);
+        IdealBench z = new IdealBench(7, 4);
+        z.rules(1);
+        for (String told : new String[] {"y3", "x5", "w2", "z4", "1x5w2"}) {
+            z.enter(kept(z, told));
+        }
+        z.work(200);
+        due("four stay", z.tidy(), 4);
+        String[] heads = {"1w2", "1y3", "1z4", "1x5"};
+        for (int i = 0; i < 4; i++) {
+            dueText("the least first", told(z, -2 - i), heads[i]);
+        }
+        // of like heads the first stays
         IdealBench y = new IdealBench(7, 2);
         y.fuel(0);
         kept(y, "x2+xy+y2");
