@@ -224,7 +224,19 @@ public final class IdealBench {
     }
 
     public int work(int pairs) {
-        return pairs < 1 || pairs > MOST_PAIRS_ASKED ? BAD : basis.workPairs(pairs);
+        if (pairs < 1 || pairs > MOST_PAIRS_ASKED) {
+            return BAD;
+        }
+        reducer.begin();
+        int done = 0;
+        while (done < pairs && basis.pairs.size > 0) {
+            int failure = basis.workNext();
+            if (failure != DONE) {
+                return failure;
+            }
+            done++;
+        }
+        return done;
     }
 
     public int tidy() {
@@ -240,7 +252,7 @@ public final class IdealBench {
         if (shelf.isFull()) {
             return FULL;
         }
-        int failure = basis.reduce(f);
+        int failure = reducer.leave(f, basis.rows, basis.size, NONE);
         return failure != DONE ? failure : shelf.put(reducer.r);
     }
 
@@ -253,7 +265,7 @@ public final class IdealBench {
             return NOT;
         }
         reducer.begin();
-        int failure = basis.reduce(f);
+        int failure = reducer.leave(f, basis.rows, basis.size, NONE);
         if (failure != DONE) {
             return failure;
         }
@@ -480,9 +492,9 @@ public final class IdealBench {
             int square = number;
             for (int bits = exponent; bits > 0; bits >>= 1) {
                 if ((bits & 1) == 1) {
-                    product = restOf(product * square);
+                    product = product * square % p;
                 }
-                square = restOf(square * square);
+                square = square * square % p;
             }
             return product;
         }
@@ -900,23 +912,22 @@ public final class IdealBench {
             return number;
         }
 
-        int reduce(Poly f) {
-            return reducer.leave(f, rows, size, NONE);
-        }
-
-        /** How many were done, or what the first that could not be done met. */
-        int workPairs(int most) {
+        /** The next pair is done (one waits): DONE, or what it met; then it waits still. */
+        int workNext() {
             reducer.begin();
-            int done = 0;
-            while (done < most && pairs.size > 0) {
-                reducer.begin();
-                int failure = workPair(nextPair());
+            int k = nextPair();
+            if ((rules & COPRIME) != 0 && isCoprime(k)) {
+                passedCoprime++;
+            } else if ((rules & CHAIN) != 0 && isChained(k)) {
+                passedChain++;
+            } else {
+                int failure = reduceS(k);
                 if (failure != DONE) {
                     return failure;
                 }
-                done++;
             }
-            return done;
+            pairs.remove(k);
+            return DONE;
         }
 
         private int nextPair() {
@@ -935,20 +946,6 @@ public final class IdealBench {
             return Mono.leastMultiple(rows[pairs.firsts[k]].head(), rows[pairs.seconds[k]].head());
         }
 
-        private int workPair(int k) {
-            if ((rules & COPRIME) != 0 && isCoprime(k)) {
-                passedCoprime++;
-                pairs.remove(k);
-                return DONE;
-            }
-            if ((rules & CHAIN) != 0 && isChained(k)) {
-                passedChain++;
-                pairs.remove(k);
-                return DONE;
-            }
-            return reducePair(k);
-        }
-
         private boolean isCoprime(int k) {
             return multipleOf(k) == rows[pairs.firsts[k]].head() + rows[pairs.seconds[k]].head();
         }
@@ -965,25 +962,23 @@ public final class IdealBench {
             return false;
         }
 
-        private int reducePair(int k) {
+        /** What is left of the S of a pair comes in; its new pairs come behind those that wait. */
+        private int reduceS(int k) {
             int failure = ring.makeS(begun, rows[pairs.firsts[k]], rows[pairs.seconds[k]]);
             if (failure == DONE) {
-                failure = reduce(begun);
+                failure = reducer.leave(begun, rows, size, NONE);
             }
             if (failure != DONE) {
                 return failure;
             }
             if (reducer.r.size == 0) {
                 leftNothing++;
-                pairs.remove(k);
                 return DONE;
             }
-            if (isFull()) {
+            if (take(reducer.r) == FULL) {
                 return FULL;
             }
             leftSomething++;
-            pairs.remove(k);
-            take(reducer.r);
             return DONE;
         }
 

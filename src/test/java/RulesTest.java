@@ -6,7 +6,9 @@ import java.lang.reflect.Modifier;
 import java.nio.file.Files;
 import java.nio.file.Path;
 import java.util.Arrays;
+import java.util.Map;
 import java.util.Set;
+import java.util.TreeMap;
 import java.util.TreeSet;
 import java.util.regex.Matcher;
 import java.util.regex.Pattern;
@@ -113,9 +115,39 @@ public final class RulesTest {
         }
     }
 
+    /** Methods of one name are taken as one, so that no call is overlooked; constructors are not looked at. */
+    private static void depth() throws IOException {
+        String code = Files.readString(Path.of("src/main/java/IdealBench.java")).replaceAll("(?s)/\\*.*?\\*/", "").replaceAll("//[^\n]*", "");
+        Map<String, Set<String>> calls = new TreeMap<>();
+        Matcher methods = Pattern.compile("(?m)^( {4}| {8})(?:\\w+ )*\\w[\\w\\[\\]]* (\\w+)\\([^)]*\\) \\{\n((?s:.*?))^\\1\\}").matcher(code);
+        while (methods.find()) {
+            Set<String> called = calls.computeIfAbsent(methods.group(2), name -> new TreeSet<>());
+            Matcher call = Pattern.compile("(?<!new )(?<!\\w)(?!if|for|while|switch|return)((?:(?:Math|Integer|Arrays)\\.)?\\w+)\\(").matcher(methods.group(3));
+            while (call.find()) {
+                called.add(call.group(1));
+            }
+        }
+        due(calls.size() > FACE.length, "methods are found");
+        for (String method : FACE) {
+            String name = method.replaceAll("\\w+ (\\w+)\\(.*", "$1");
+            due(calls.containsKey(name), name + " is found");
+            int deep = deep(calls, name, 0);
+            due(deep <= 8, name + " goes eight calls deep at most: " + deep);
+        }
+    }
+
+    private static int deep(Map<String, Set<String>> calls, String name, int above) {
+        int most = above + 1;
+        for (String called : calls.getOrDefault(name, Set.of())) {
+            most = Math.max(most, above > 20 ? above : deep(calls, called, above + 1));
+        }
+        return most;
+    }
+
     public static void main(String[] args) throws Exception {
         face();
         file();
+        depth();
         System.out.println(wrong == 0 ? "the rules are kept" : wrong + " rules are not kept");
         if (wrong != 0) {
             System.exit(1);
