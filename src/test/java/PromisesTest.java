@@ -1,71 +1,6 @@
 /** Each promise by hand: ordinary inputs, the edges that the document names, wrong inputs. */
-public final class PromisesTest {
-    static final int NONE = -1, BAD = -2, NOT = -3, FULL = -4, GREAT = -5, LONG = -6, SPENT = -7;
-    static final int[] NO_PLACES = {24, 25, 1000, Integer.MAX_VALUE, Integer.MIN_VALUE, -2, -3, -20, 23};
-
-    private static int wrong = 0;
-    private static int promise = 0;
-
-    private static void due(String call, long got, long want) {
-        if (got != want) {
-            wrong++;
-            System.out.println("promise " + promise + ": " + call + " answered " + got + ", due is " + want);
-        }
-    }
-
-    /** Keeps a polynomial, told as "2x3y-z+1"; the draft is to be nought. */
-    private static int kept(IdealBench x, String told) {
-        draft(x, told);
-        return x.keep();
-    }
-
-    private static void draft(IdealBench x, String told) {
-        for (String term : told.replace("-", "+-").split("\\+")) {
-            if (!term.isEmpty()) {
-                addTerm(x, term);
-            }
-        }
-    }
-
-    private static void addTerm(IdealBench x, String term) {
-        int[] exponents = new int[4];
-        int sign = term.startsWith("-") ? -1 : 1;
-        String digits = "";
-        String rest = sign < 0 ? term.substring(1) : term;
-        int at = 0;
-        while (at < rest.length() && Character.isDigit(rest.charAt(at))) {
-            digits += rest.charAt(at++);
-        }
-        int number = digits.isEmpty() ? 1 : Integer.parseInt(digits);
-        while (at < rest.length()) {
-            int v = "xyzw".indexOf(rest.charAt(at++));
-            String e = "";
-            while (at < rest.length() && Character.isDigit(rest.charAt(at))) {
-                e += rest.charAt(at++);
-            }
-            exponents[v] += e.isEmpty() ? 1 : Integer.parseInt(e);
-        }
-        due("term " + term, Math.min(x.term(sign * number, exponents[0], exponents[1], exponents[2], exponents[3]), 0), 0);
-    }
-
-    private static String told(IdealBench x, int place) {
-        StringBuilder s = new StringBuilder();
-        for (int t = 0; t < x.terms(place); t++) {
-            s.append(t > 0 ? "+" : "").append(x.number(place, t));
-            for (int v = 0; v < x.count(1); v++) {
-                int e = x.exponent(place, t, v);
-                s.append(e == 0 ? "" : "xyzw".substring(v, v + 1) + (e == 1 ? "" : e));
-            }
-        }
-        return s.toString();
-    }
-
-    private static void dueText(String call, String got, String want) {
-        if (!got.equals(want)) {
-            wrong++;
-            System.out.println("promise " + promise + ": " + call + " is " + got + ", due is " + want);
-        }
-    }
+public final class PromisesTest extends Kit {
+    private static final int[] NO_PLACES = {24, 25, 1000, Integer.MAX_VALUE, Integer.MIN_VALUE, -2, -3, -20, 23};
 
     /** The digest by the document's words, out of what the object tells of itself. */
     private static long digestOf(IdealBench x) {
@@ -90,12 +25,6 @@ public final class PromisesTest {
             }
         }
         return h;
-    }
-
-    private static void fillShelf(IdealBench x) {
-        for (int k = x.count(10); k < 24; k++) {
-            x.keep();
-        }
     }
 
     /** Forty terms, all of x y^i z^j with i from 1. */
@@ -348,7 +277,7 @@ public final class PromisesTest {
                 due("sum " + place, x.sum(0, place, 1), BAD);
             }
         }
-        fillShelf(x);
+        fullShelf(x);
         due("full", x.sum(0, 1, 1), FULL);
         due("bad ahead", x.sum(0, -9, 1), BAD);
         IdealBench y = new IdealBench(7, 3);
@@ -362,7 +291,7 @@ public final class PromisesTest {
         due("forty", y.terms(4), 40);
         due("long", y.sum(1, 0, 1), LONG);
         due("held", y.count(10), 5);
-        fillShelf(y);
+        fullShelf(y);
         due("full ahead of long", y.sum(0, 1, 1), FULL);
     }
 
@@ -390,7 +319,7 @@ public final class PromisesTest {
         due("great below the head", x.product(9, 7), GREAT);
         due("not great", x.product(8, 8), 10);
         due("its exponent", x.exponent(10, 0, 0), 30);
-        fillShelf(x);
+        fullShelf(x);
         due("full ahead of great", x.product(7, 0), FULL);
         due("bad ahead of full", x.product(7, 99), BAD);
         greatOrLong();
@@ -448,7 +377,7 @@ public final class PromisesTest {
         x.enter(0);
         due("of the basis", x.derived(-2, 0), 4);
         dueText("of the basis", told(x, 4), "1x2y2+3");
-        fillShelf(x);
+        fullShelf(x);
         due("full", x.derived(0, 0), FULL);
         due("bad ahead", x.derived(0, 5), BAD);
         IdealBench y = new IdealBench(251, 3);
@@ -489,7 +418,7 @@ public final class PromisesTest {
         kept(x, "x+1");
         due("not great", x.spair(7, 8), 9);
         dueText("not great", told(x, 9), "6x29+1y30");
-        fillShelf(x);
+        fullShelf(x);
         due("full ahead of great", x.spair(5, 6), FULL);
         due("bad ahead of full", x.spair(5, 4), BAD);
         IdealBench y = new IdealBench(7, 3);
@@ -1034,7 +963,7 @@ public final class PromisesTest {
         x.fuel(500);
         x.left(-2);
         due("one made", x.count(11), 1);
-        fillShelf(x);
+        fullShelf(x);
         int before = x.count(8);
         due("full", x.left(0), FULL);
         due("none made", x.count(11), 0);
@@ -1109,7 +1038,7 @@ public final class PromisesTest {
         x.fuel(1);
         due("spent", x.member(2), SPENT);
         due("held", x.count(10), 5);
-        fillShelf(x);
+        fullShelf(x);
         due("no place is needed", x.member(1), 1);
         IdealBench y = new IdealBench(7, 2);
         y.order(0);
@@ -1413,7 +1342,8 @@ public final class PromisesTest {
             PromisesTest::promise24, PromisesTest::promise25, PromisesTest::promise26, PromisesTest::promise27,
             PromisesTest::promise28, PromisesTest::promise29, PromisesTest::promise30
         };
-        for (promise = 0; promise < promises.length; promise++) {
+        for (int promise = 0; promise < promises.length; promise++) {
+            about = "promise " + promise;
             promises[promise].run();
         }
         System.out.println(wrong == 0 ? "all promises hold" : wrong + " answers are not as due");
