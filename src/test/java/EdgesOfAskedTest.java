@@ -259,6 +259,14 @@ public final class EdgesOfAskedTest extends Kit {
         due("no term", tidyOf(3, "z3+z+1").without(2), 1);
     }
 
+    private static void p27_behindLongerOnes() {
+        IdealBench x = tidied(entered(bench(7, 2, "y2+x", "y2"), 0), 1);
+        due("x is in it", x.without(1), 0);
+        x.clear();
+        tidied(entered(x, 1), 1);
+        due("it is not", x.without(1), 1);
+    }
+
     private static void p27_eighteen() {
         IdealBench x = edges(18);
         due("none asked", x.without(0), 18);
@@ -601,6 +609,11 @@ public final class EdgesOfAskedTest extends Kit {
             h = 31 * (31 * h + place);
         }
         due("digest", x.digest(), h);
+    }
+
+    private static void p30_draftShelfBasisInTurn() {
+        IdealBench x = withDraft(entered(bench(7, 1, "x2", "3x"), 0), "5");
+        due("digest", x.digest(), digestOf(1, 5, 0, 0, 1, 1, 2, 1, 1, 3, 1, 1, 1, 2));
     }
 
     private static void p30_basisWithoutItsNumbers() {

@@ -290,6 +290,17 @@ public final class EdgesOfBasisTest extends Kit {
         due("02 is passed by 1", x.count(5), 1);
     }
 
+    private static void p17_chainBehindBothOthers() {
+        // WAY 1 works on 12 (M xy), on 02 (x2), then on 01 (x2y): the head of 2 divides it, the others are done
+        IdealBench x = ruled(entered(bench(7, 2, "x2", "y", "x"), 0, 1, 2), 2);
+        x.way(1);
+        due("work", x.work(2), 2);
+        due("01 waits", x.pair(0), 1);
+        due("none is passed yet", x.count(5), 0);
+        due("work", x.work(1), 1);
+        due("01 is passed", x.count(5), 1);
+    }
+
     private static void p17_coprimeIsAskedAhead() {
         IdealBench x = ruled(entered(bench(7, 2, "1", "x", "y"), 0, 1, 2), 3);
         worked(x, 3);
@@ -818,6 +829,14 @@ public final class EdgesOfBasisTest extends Kit {
         due("tidy", toTidy(H_41_BY, GREAT_AND_LONG_OF).tidy(), GREAT);
     }
 
+    private static void p21_failureBehindOneThatWasTidied() {
+        failed("tidy", () -> {
+            IdealBench x = tidied(ofFive(5), 3);
+            x.clear();
+            return fuelled(worked(entered(x, 0, 1, 2), 3), 4);
+        }, x -> x.tidy(), SPENT, 4);
+    }
+
     private static void p21_failureOfATidyBasis() {
         // it is TIDY already, so there is nothing to do without FUEL
         IdealBench x = fuelled(tidied(toTidy(TWO_BY, TWO_OF), 2), 0);
@@ -971,6 +990,20 @@ public final class EdgesOfBasisTest extends Kit {
         failed("LONG first", () -> toLeaveInTurn(1, "y+z4+z3+z2+z+w"), x -> x.left(-1), LONG, 1);
         failed("SPENT first", () -> toLeaveInTurn(1, "y+z4w+z3+z2+z+1"), x -> x.left(-1), SPENT, 1);
         failed("with more FUEL LONG", () -> toLeaveInTurn(2, "y+z4w+z3+z2+z+1"), x -> x.left(-1), LONG, 2);
+    }
+
+    /** Many REDUCTIONS and thirty-nine TERMS that go over; then of y30 two come, the first of which goes over. */
+    private static IdealBench toLeaveWithAllSteps(String of30) {
+        String many = powers("xz", "y", 2, 29) + "+" + powers("x2", "y", 0, 7);
+        String draft = many + "+x3z30w14+x4z6+x5+y30";
+        return fuelled(withDraft(entered(ordered(0, 7, 4, "w-1", "z-w30", of30), 0, 1, 2), draft), 2000);
+    }
+
+    private static void p22_asManyStepsAsThereMayBe() {
+        // 28 + 30 + 6 times 31, 14 and 1
+        failed("the 41st TERM", () -> toLeaveWithAllSteps("y30-y-1"), x -> x.left(-1), LONG, 31 * 64 + 14 + 1);
+        failed("with one more", () -> toLeaveWithAllSteps("y30-y-w"), x -> x.left(-1), LONG, 31 * 64 + 14 + 2);
+        failed("with two more", () -> toLeaveWithAllSteps("y30-y-w2"), x -> x.left(-1), SPENT, 2000);
     }
 
     private static void p22_greatAheadOfLong() {

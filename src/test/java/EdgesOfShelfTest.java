@@ -1,3 +1,5 @@
+import java.util.Arrays;
+
 /** Each boundary case that promises 1 to 8 name, one by one. */
 public final class EdgesOfShelfTest extends Kit {
     private static final int[] PRIMES = {
@@ -213,6 +215,58 @@ public final class EdgesOfShelfTest extends Kit {
             due("the last of " + place, 100 * x.exponent(place, 39, 0) + x.exponent(place, 39, 3), 100);
             due("its number", x.number(place, 39), place < 0 ? 1 : 1 + place % 6);
         }
+    }
+
+    private static void p02_numbersGoWithTheirMonomials() {
+        IdealBench x = withDraft(bench(11, 3, "1x2+2xy2+3z3+4y"), "5x2+6y3z+7z");
+        due("order", x.order(0), 2);
+        dueText("the kept by LEX", told(x, 0), "1x2+2xy2+4y+3z3");
+        dueText("the draft by LEX", told(x, -1), "5x2+6y3z+7z");
+        due("order", x.order(2), 0);
+        dueText("the kept by REVERSED", told(x, 0), "2xy2+3z3+1x2+4y");
+        dueText("the draft by REVERSED", told(x, -1), "6y3z+5x2+7z");
+    }
+
+    /** By the document's words, of exponents in a row. */
+    private static int byOrder(int order, int[] a, int[] b) {
+        if (order == 3) {
+            int first = reversed(new int[] {a[0], a[1]}, new int[] {b[0], b[1]});
+            return first != 0 ? first : reversed(new int[] {a[2], a[3]}, new int[] {b[2], b[3]});
+        }
+        int bySum = Integer.compare(Arrays.stream(a).sum(), Arrays.stream(b).sum());
+        return order == 2 ? reversed(a, b) : order == 1 && bySum != 0 ? bySum : Arrays.compare(a, b);
+    }
+
+    private static int reversed(int[] a, int[] b) {
+        int bySum = Integer.compare(Arrays.stream(a).sum(), Arrays.stream(b).sum());
+        for (int v = a.length - 1; v >= 0 && bySum == 0; v--) {
+            bySum = Integer.compare(b[v], a[v]);
+        }
+        return bySum;
+    }
+
+    private static void p02_manyMonomials() {
+        int[] exponents = {0, 1, 2, 7, 8, 15, 16, 17, 29, 30};
+        int next = 1;
+        for (int run = 0; run < 400; run++) {
+            IdealBench x = ordered(run % 4, 251, 4);
+            for (int t = 0; t < 25; t++) {
+                int[] e = new int[4];
+                for (int v = 0; v < 4; v++) {
+                    next = next * 1103515245 + 12345;
+                    e[v] = exponents[(next >>> 16) % (run % 3 == 0 ? 3 : 10)];
+                }
+                x.term(1, e[0], e[1], e[2], e[3]);
+            }
+            for (int t = 1; t < x.terms(-1); t++) {
+                int order = run % 4;
+                due("term " + t + " is less by " + order, byOrder(order, exponentsOf(x, t - 1), exponentsOf(x, t)), 1);
+            }
+        }
+    }
+
+    private static int[] exponentsOf(IdealBench x, int t) {
+        return new int[] {x.exponent(-1, t, 0), x.exponent(-1, t, 1), x.exponent(-1, t, 2), x.exponent(-1, t, 3)};
     }
 
     private static void p02_oneVariable() {

@@ -212,6 +212,21 @@ public final class EdgesOfSumsTest extends Kit {
         refused("the other way about", () -> bench(7, 2, "x20y20+y30", "x+y"), x -> x.product(1, 0), GREAT);
     }
 
+    private static void p10_greatInTheLastTermOfTheLongerOne() {
+        refused("three by one", () -> bench(7, 2, "x20y20+x10y20+y30", "y"), x -> x.product(0, 1), GREAT);
+        refused("one by three", () -> bench(7, 2, "x20y20+x10y20+y30", "y"), x -> x.product(1, 0), GREAT);
+    }
+
+    private static void p10_placeThatHeldALongerOne() {
+        IdealBench x = bench(7, 2, "y2+y", "y+1");
+        x.drop(1);
+        due("kept", kept(x, "y"), 1);
+        due("product", x.product(0, 1), 2);
+        dueText("product", told(x, 2), "1y3+1y2");
+        due("product", x.product(1, 0), 3);
+        dueText("product", told(x, 3), "1y3+1y2");
+    }
+
     private static void p10_fortyTerms() {
         IdealBench x = bench(7, 3, powers("", "y", 0, 19), "1+z", powers("", "y", 0, 7), "1+z+z2+z3+z4");
         due("twenty by two", x.product(0, 1), 4);
@@ -226,6 +241,13 @@ public final class EdgesOfSumsTest extends Kit {
         // 20 of z to 0, 21 of z to 1
         refused("long", () -> bench(7, 3, powers("", "y", 0, 19), "1+z+yz"), x -> x.product(0, 1), LONG);
         refused("long", () -> bench(7, 3, powers("", "y", 0, 19), "1+z+yz"), x -> x.product(1, 0), LONG);
+    }
+
+    private static void p10_behindOneThatWasLong() {
+        IdealBench x = bench(7, 3, powers("", "y", 0, 19), "1+z+yz", "y2+1", "y-1");
+        due("long", x.product(0, 1), LONG);
+        due("the next", x.product(2, 3), 4);
+        dueText("the next", told(x, 4), "1y3+6y2+1y+6");
     }
 
     private static void p10_sixteenHundredTerms() {
@@ -602,6 +624,14 @@ public final class EdgesOfSumsTest extends Kit {
     private static void p14_oneIsOver() {
         comparesAs("x+y", "x+y+1", -1);
         comparesAs("x", "x+y+z+1", -1);
+    }
+
+    private static void p14_placeThatHeldALongerOne() {
+        IdealBench x = bench(7, 2, "x2+x+y", "x2+y");
+        x.drop(0);
+        due("kept", kept(x, "x2"), 0);
+        due("it is over", x.compare(0, 1), -1);
+        due("it is over", x.compare(1, 0), 1);
     }
 
     private static void p14_monomialAheadOfNumber() {

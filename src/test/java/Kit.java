@@ -137,6 +137,7 @@ class Kit {
 
     static IdealBench tidied(IdealBench x, int stay) {
         due("tidy", x.tidy(), stay);
+        due("basis behind tidy", x.count(2), stay);
         return x;
     }
 
@@ -167,6 +168,8 @@ class Kit {
         all.add("tidy " + x.tidy() + ", count(11) " + x.count(11));
         all.add("digest " + x.digest());
         all.add("left " + x.left(-1) + ", keep " + x.keep());
+        all.add("sum " + x.sum(0, -2, 2) + ", product " + x.product(0, 0) + " " + x.product(0, -2));
+        all.add("derived " + x.derived(0, 0) + ", spair " + x.spair(0, -2));
         lookAtState(all, x);
         all.add("clear " + x.clear());
         all.add("ORDER " + x.order(0));

@@ -4,7 +4,9 @@ import java.util.TreeMap;
 /** Long runs of calls of all kinds: each answers as the plain model of the document does. */
 public final class ModelTest {
     private static final int RUNS = 3000;
-    private static final int CALLS = 512;
+    private static final int MOST_CALLS = 512;
+    /** Of whole(), and of what is asked at the end of a run. */
+    private static final int CALLS_OF_WHOLE = 300, CALLS_AT_END = 16;
     private static final int NONE = -1;
     private static final int TIDY = 19, LEFT = 20, MEMBER = 21, STANDING = 23, WITHOUT = 25, ZEROS = 26, DIGEST = 28;
     private static final String[] NAMES = {
@@ -25,6 +27,8 @@ public final class ModelTest {
     private final int n;
     /** What a run is about: 0 small ones, 1 long ones, 2 great exponents, 3 one or two TERMS. */
     private final int kind;
+    /** That the object has had. */
+    private int calls = 0;
     private static final TreeMap<String, Integer> answered = new TreeMap<>();
     private static int wrong = 0;
 
@@ -77,7 +81,9 @@ public final class ModelTest {
         return random.nextInt(25) == 0 ? any() : random.nextInt(bound + 1) - (random.nextInt(15) == 0 ? 1 : 0);
     }
 
+    /** Of one call of the object. */
     private void same(int run, int call, String told, long got, long due) {
+        calls++;
         if (got != due) {
             wrong++;
             if (wrong < 40) {
@@ -112,7 +118,7 @@ public final class ModelTest {
      * Behind each other the calls that make a basis, tidy it and ask of it: without them few runs come so far.
      * Half of them begin with heads that are powers of unlike variables, so that the basis does not soon hold 1.
      */
-    private int whole(int run, int call) {
+    private void whole(int run, int call) {
         same(run, call, "clear", bench.clear(), model.clear());
         int fuel = random.nextInt(3) == 0 ? random.nextInt(40) : 300 + random.nextInt(1700);
         int rules = random.nextInt(4);
@@ -122,9 +128,8 @@ public final class ModelTest {
         same(run, call, "rules", bench.rules(rules), model.rules(rules));
         int many = 1 + random.nextInt(n + 2);
         int most = new int[] {1, 2, 3, 4, 30}[random.nextInt(5)];
-        int calls = 3;
         for (int k = 0; k < many; k++) {
-            calls += enterOne(run, call, most, powers && k < n ? k : NONE);
+            enterOne(run, call, most, powers && k < n ? k : NONE);
         }
         for (int k = 0; k < 3; k++) {
             same(run, call, "work", bench.work(200), model.work(200));
@@ -141,10 +146,9 @@ public final class ModelTest {
         for (int which : new int[] {MEMBER, LEFT, MEMBER, WITHOUT, ZEROS, TIDY, DIGEST}) {
             call(run, call, which);
         }
-        return calls + 20;
     }
 
-    private int enterOne(int run, int call, int most, int powerOf) {
+    private void enterOne(int run, int call, int most, int powerOf) {
         int drop = random.nextInt(24);
         same(run, call, "drop", bench.drop(drop), model.drop(drop));
         int place = model.keep();
@@ -161,7 +165,6 @@ public final class ModelTest {
             same(run, call, "term", bench.term(number, e[0], e[1], e[2], e[3]), model.term(number, e[0], e[1], e[2], e[3]));
         }
         same(run, call, "enter", bench.enter(-1), model.enter(-1));
-        return terms + 4;
     }
 
     private int fuelToTell() {
@@ -173,9 +176,9 @@ public final class ModelTest {
             int order = random.nextInt(4);
             same(run, -1, "order", bench.order(order), model.order(order));
         }
-        for (int call = 0; call < CALLS - 1 && wrong == 0; call++) {
-            if (random.nextInt(80) == 0 && call < CALLS - 300) {
-                call += whole(run, call);
+        for (int call = 0; calls < MOST_CALLS - CALLS_AT_END && wrong == 0; call++) {
+            if (random.nextInt(80) == 0 && calls < MOST_CALLS - CALLS_AT_END - CALLS_OF_WHOLE) {
+                whole(run, call);
             }
             call(run, call, next());
             if (run % 7 == 0) {
@@ -183,7 +186,7 @@ public final class ModelTest {
             }
         }
         for (int what = 0; what < 12; what++) {
-            same(run, CALLS, "count " + what, bench.count(what), model.count(what));
+            same(run, MOST_CALLS, "count " + what, bench.count(what), model.count(what));
         }
     }
 
@@ -252,7 +255,12 @@ public final class ModelTest {
         int runs = args.length > 0 ? Integer.parseInt(args[0]) : RUNS;
         int first = args.length > 1 ? Integer.parseInt(args[1]) : 0;
         for (int run = first; run < first + runs && wrong == 0; run++) {
-            new ModelTest(run).run(run);
+            ModelTest test = new ModelTest(run);
+            test.run(run);
+            if (test.calls > MOST_CALLS) {
+                wrong++;
+                System.out.println("run " + run + " has more calls than an object is used for: " + test.calls);
+            }
         }
         if (args.length > 0) {
             System.out.println(answered);

@@ -17,10 +17,12 @@ public final class PromisesTest extends Kit {
     }
 
     private static long digestAt(IdealBench x, long before, int place) {
-        long h = 31 * before + x.terms(place);
-        for (int t = 0; t < x.terms(place); t++) {
+        int terms = x.terms(place);
+        int variables = x.count(1);
+        long h = 31 * before + terms;
+        for (int t = 0; t < terms; t++) {
             h = 31 * h + x.number(place, t);
-            for (int v = 0; v < x.count(1); v++) {
+            for (int v = 0; v < variables; v++) {
                 h = 31 * h + x.exponent(place, t, v);
             }
         }
@@ -77,8 +79,12 @@ public final class PromisesTest extends Kit {
         for (int order : new int[] {0, 1, 2, 3, 0, 3, 2, 1, 0, 2}) {
             due("order " + order, x.order(order), was);
             was = order;
-            dueText("the kept by " + order, told(x, place), stand[order]);
-            dueText("the draft by " + order, told(x, -1), stand[order]);
+            IdealBench z = new IdealBench(7, 3);
+            due("kept", kept(z, all), 0);
+            draft(z, all);
+            z.order(order);
+            dueText("the kept by " + order, told(z, 0), stand[order]);
+            dueText("the draft by " + order, told(z, -1), stand[order]);
             IdealBench y = new IdealBench(7, 3);
             y.order(order);
             kept(y, all);
@@ -1308,17 +1314,18 @@ public final class PromisesTest extends Kit {
             h = 31 * h + next;
         }
         due("basis", x.digest(), h);
-        IdealBench y = new IdealBench(7, 4);
-        draftForty(y);
-        y.keep();
-        kept(y, "x2w+3z");
-        y.enter(0);
-        y.enter(1);
-        draft(y, "w+5");
-        due("much", y.digest(), digestOf(y));
-        y.order(0);
-        y.work(200);
-        due("much", y.digest(), digestOf(y));
+        for (int pairs = 1; pairs < 9; pairs++) {
+            IdealBench y = new IdealBench(7, 4);
+            kept(y, "3x2y+z+2w3+4x30w30+5yzw+6");
+            kept(y, "x2w+3z");
+            kept(y, "xy2+w");
+            for (int i = 0; i < 3; i++) {
+                y.enter(i);
+            }
+            draft(y, "w+5");
+            y.work(pairs);
+            due("much", y.digest(), digestOf(y));
+        }
     }
 
     private static void constants() {
