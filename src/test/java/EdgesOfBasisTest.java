@@ -556,16 +556,33 @@ public final class EdgesOfBasisTest extends Kit {
         failed("work 200", () -> fullBasis(), x -> x.work(200), FULL, 0);
     }
 
+    /** What S leaves behind one REDUCTION would be the nineteenth. */
+    private static IdealBench fullBehindOne() {
+        IdealBench x = bench(7, 2, "x2-y", "x4+y+1");
+        entered(x, 1);
+        for (int i = 1; i < 18; i++) {
+            x.enter(0);
+        }
+        return x;
+    }
+
     private static void p20_fullBehindReductions() {
-        Supplier<IdealBench> made = () -> {
-            IdealBench x = bench(7, 2, "x2-y", "x4+y+1");
-            entered(x, 1);
-            for (int i = 1; i < 18; i++) {
+        failed("work", () -> fullBehindOne(), x -> x.work(9), FULL, 1);
+        failed("with FUEL for just that one", () -> fuelled(fullBehindOne(), 1), x -> x.work(9), FULL, 1);
+    }
+
+    private static void p20_spentIsMetAheadOfFull() {
+        failed("work", () -> fuelled(fullBehindOne(), 0), x -> x.work(9), SPENT, 0);
+    }
+
+    private static void p20_longIsMetAheadOfFull() {
+        failed("work", () -> {
+            IdealBench x = entered(bench(7, 3, FORTY, "xy20z+y+1"), 0, 1);
+            for (int i = 2; i < 18; i++) {
                 x.enter(0);
             }
             return x;
-        };
-        failed("work", made, x -> x.work(9), FULL, 1);
+        }, x -> x.work(9), LONG, 0);
     }
 
     private static void p20_fullIsNotMetByWhatLeavesNothing() {
