@@ -98,6 +98,10 @@ public final class EdgesOfAskedTest extends Kit {
         due("under the stair", edges(18).standing(), 17 * 18 / 2);
     }
 
+    private static void p25_behindATidyThatDroppedOne() {
+        due("1 alone", oneGone().standing(), 1);
+    }
+
     private static void p25_headsAloneAreAsked() {
         due("standing", tidyOf(2, "x2+y", "y2+x").standing(), 4);
     }
@@ -178,6 +182,12 @@ public final class EdgesOfAskedTest extends Kit {
 
     private static void p26_greatestExponent() {
         due("x29", tidyOf(1, "x30").stands(29, 0), 29);
+    }
+
+    private static void p26_behindATidyThatDroppedOne() {
+        IdealBench x = oneGone();
+        dueText("1", stands(x, 0), "0 0 ");
+        due("no other", x.stands(1, 0), BAD);
     }
 
     private static void p26_leastFirstByEachOrder() {
@@ -265,6 +275,13 @@ public final class EdgesOfAskedTest extends Kit {
         x.clear();
         tidied(entered(x, 1), 1);
         due("it is not", x.without(1), 1);
+    }
+
+    private static void p27_behindATidyThatDroppedOne() {
+        IdealBench x = oneGone();
+        due("both", x.without(0), 2);
+        due("y", x.without(1), 1);
+        due("none", x.without(2), 0);
     }
 
     private static void p27_eighteen() {

@@ -399,6 +399,19 @@ public final class EdgesOfBasisTest extends Kit {
         due("terms", x.terms(-2), 40);
     }
 
+    private static void p18_fortyTermsMadeMonic() {
+        IdealBench x = new IdealBench(7, 3);
+        for (int i = 0; i < 40; i++) {
+            due("term", x.term(1 + i % 6, 1, 1 + i / 2, i % 2, 0), i + 1);
+        }
+        int head = x.number(-1, 0);
+        due("it is not monic", head == 1 ? 1 : 0, 0);
+        due("enter", x.enter(-1), 0);
+        for (int t = 0; t < 40; t++) {
+            due("number " + t, x.number(-2, t) * head % 7, x.number(-1, t));
+        }
+    }
+
     private static void p18_oneOfTheBasis() {
         IdealBench x = entered(bench(7, 2, "x+1", "y"), 0, 1);
         due("enter", x.enter(-2), 2);
@@ -783,6 +796,22 @@ public final class EdgesOfBasisTest extends Kit {
         }
     }
 
+    private static void p21_tailsOfUnlikeNumbers() {
+        IdealBench x = tidied(entered(bench(11, 1, "x5+2x4+3x3+4x2+5x+6"), 0), 1);
+        dueText("nothing lessens it", told(x, -2), "1x5+2x4+3x3+4x2+5x+6");
+        IdealBench y = tidied(worked(ruled(entered(bench(11, 2, "x3+2x2+3y2+4x+5y+6", "y2+7x+1"), 0, 1), 1), 1), 2);
+        dueText("y2", told(y, -2), "1y2+7x+1");
+        dueText("x3, less 3 times that", told(y, -3), "1x3+2x2+5x+5y+3");
+    }
+
+    private static void p21_behindALongerBasis() {
+        IdealBench x = tidied(worked(ruled(entered(bench(7, 2, "y2", "x3+y", "y"), 0, 1), 1), 1), 2);
+        x.clear();
+        tidied(worked(entered(x, 2, 2), 1), 1);
+        due("nothing is made of what is gone", x.count(11), 0);
+        dueText("y", told(x, -2), "1y");
+    }
+
     private static void p21_spent() {
         failed("FUEL 0", () -> fuelled(toTidy(TWO_BY, TWO_OF), 0), x -> x.tidy(), SPENT, 0);
         failed("FUEL 1", () -> fuelled(toTidy(TWO_BY, TWO_OF), 1), x -> x.tidy(), SPENT, 1);
@@ -1033,6 +1062,24 @@ public final class EdgesOfBasisTest extends Kit {
         dueText("left", told(x, 2), "3x+5");
     }
 
+    private static void p22_byHeadsOfTheOrder() {
+        // the heads: x2, z4, z4, y3
+        String[] one = {"-y6z4-3y3z8", "-4x2y6-4x4y3", "-4x2y6-4x4y3", "-x4z4-3x2z8"};
+        // the heads: xz, xz, y2, y2
+        String[] other = {"-2xy4-x2y2", "-2xy4-x2y2", "-6x3z2-6x3z", "-6x3z2-6x3z"};
+        for (int order = 0; order < 4; order++) {
+            leftIs(order, "y3+x2+3z4", "x2y3z4", one[order]);
+            leftIs(order, "xz+2y2+x", "x2y2z", other[order]);
+        }
+    }
+
+    private static void leftIs(int order, String by, String of, String want) {
+        IdealBench x = withDraft(entered(ordered(order, 11, 3, by, of), 0), want);
+        due("left", x.left(1), 2);
+        due("by " + order, x.compare(2, -1), 0);
+        due("made", x.count(11), 1);
+    }
+
     // ---- 23 member
 
     private static void p23_places() {
@@ -1077,6 +1124,13 @@ public final class EdgesOfBasisTest extends Kit {
 
     private static void p23_fullShelf() {
         due("member", fullShelf(toLeave("y+1", "")).member(0), 1);
+    }
+
+    private static void p23_behindATidyThatDroppedOne() {
+        IdealBench x = oneGone();
+        due("y", x.member(2), 1);
+        due("x", x.member(1), 1);
+        due("x2", x.member(0), 1);
     }
 
     private static void p23_spent() {

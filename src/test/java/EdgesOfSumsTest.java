@@ -113,6 +113,14 @@ public final class EdgesOfSumsTest extends Kit {
         due("sum", x.sum(0, 0, 1), FULL);
     }
 
+    private static void p09_standsByTheOrder() {
+        for (int order = 0; order < 4; order++) {
+            IdealBench x = withDraft(ordered(order, 11, 3, "xz+2y2+z3", "x+2y2+3y+5"), "xz+8y2+z3+3x+9y+4");
+            due("sum", x.sum(0, 1, 3), 2);
+            due("by " + order, x.compare(2, -1), 0);
+        }
+    }
+
     private static void p09_full() {
         refused("sum", () -> fullShelf(bench(7, 2, "x", "y")), x -> x.sum(0, 1, 1), FULL);
     }
@@ -273,6 +281,16 @@ public final class EdgesOfSumsTest extends Kit {
         due("product", x.product(0, 1), 2);
         // (-x - 1) (-x - 2)
         dueText("product", told(x, 2), "1x2+3x+2");
+    }
+
+    private static void p10_standsByTheOrder() {
+        for (int order = 0; order < 4; order++) {
+            IdealBench x = withDraft(ordered(order, 11, 3, "xz+2y2+z3", "x+3y+5"), "x2z+3xyz+5xz+2xy2+6y3+10y2+xz3+3yz3+5z3");
+            due("product", x.product(0, 1), 2);
+            due("by " + order, x.compare(2, -1), 0);
+            due("the other way about", x.product(1, 0), 3);
+            due("by " + order, x.compare(3, -1), 0);
+        }
     }
 
     private static void p10_lastPlaceThenFull() {
@@ -502,6 +520,16 @@ public final class EdgesOfSumsTest extends Kit {
         refused("the second's", () -> bench(7, 3, FORTY, "xy19+x19+x18+y18+1"), x -> x.spair(0, 1), LONG);
         refused("the second's great one", () -> bench(7, 3, FORTY, "x15+y14+z14+x14+1"), x -> x.spair(0, 1), GREAT);
         refused("the first's great one", () -> bench(7, 3, FORTY, "x15+y14+z14+x14+1"), x -> x.spair(1, 0), GREAT);
+    }
+
+    private static void p12_headsByTheOrder() {
+        // the heads: xz, x2; xz, z4; y2, z4; y2, y3
+        String[] want = {"2xy2+x2-y3z-3z5", "2y2z3+xz3-4xy3-4x3", "6xz5+6xz4-4y5-4x2y2", "6xyz+6xy-x2-3z4"};
+        for (int order = 0; order < 4; order++) {
+            IdealBench x = withDraft(ordered(order, 11, 3, "xz+2y2+x", "y3+x2+3z4"), want[order]);
+            due("spair", x.spair(0, 1), 2);
+            due("by " + order, x.compare(2, -1), 0);
+        }
     }
 
     private static void p12_full() {

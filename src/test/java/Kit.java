@@ -141,6 +141,11 @@ class Kit {
         return x;
     }
 
+    /** The TIDY basis y, x, of which x2 is gone that came ahead of them; they are on the shelf as x2, x, y. */
+    static IdealBench oneGone() {
+        return tidied(worked(entered(bench(7, 2, "x2", "x", "y"), 0, 1, 2), 3), 2);
+    }
+
     /** What is not held yet is nought, and so is the draft. */
     static IdealBench fullShelf(IdealBench x) {
         for (int k = x.count(10); k < 24; k++) {
